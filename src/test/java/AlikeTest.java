@@ -80,6 +80,9 @@ public final class AlikeTest {
         due(x, "out x.0 of A x,A y", "out y.0 of A x,A y", true);
         due(x, "out x.0 of A x", "out x.0 of A x,A y", false);
         due(x, "out x.0 of A x,A y", "out x.0 of A x,B y", false);
+        due(x, "out x.0 of A x,A y", "out x.0 of A x,A y where x.0=y.0 and x.1=y.1", false);
+        due(x, "out 1 of C x,C y,C z where x.0=y.0", "out 1 of C x,C y,C z where x.0=y.0 and y.0=z.0", false);
+        due(x, "out 1 of C x,C y where x.0=1 and y.0=1", "out 1 of C x,C y where x.0=1", false);
         due(x, "set out x.0 of A x", "set out x.0 of A x,A y", false);
         due(x, "out x.0,y.0 of A x,A y", "out y.0,x.0 of A x,A y", true);
         due(x, "out x.0,y.1 of A x,A y", "out x.1,y.0 of A x,A y", false);

@@ -115,6 +115,8 @@ public final class QuestionTest {
         placeDue("out 1 of A x ~", 13);
         placeDue("+ out 1 of A x", 0);
         placeDue("out 1 of A x where x.0=1-1", 25);
+        placeDue(",".repeat(200), 0);
+        placeDue("out 1 of A x" + "+".repeat(188), 13);
     }
 
     private static void tooEarly() {

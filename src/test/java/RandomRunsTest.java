@@ -15,6 +15,7 @@ public final class RandomRunsTest {
     private final Model model = new Model();
     private final int[] columns = new int[4];
     private int tables;
+    private RandomBlock latest;
     private int calls;
 
     private RandomRunsTest(int seed) {
@@ -30,8 +31,7 @@ public final class RandomRunsTest {
     }
 
     private void compareRun(int seed) {
-        int first = 1 + random.nextInt(4);
-        for (int i = 0; i < first; i++) {
+        for (int first = below(4); first >= 0 || tables == 0; first--) {
             makeTable();
         }
         while (calls < CALLS) {
@@ -66,8 +66,10 @@ public final class RandomRunsTest {
                 both(run + "run " + q, () -> x.run(q), () -> model.run(q));
                 compareAnswer(run);
             }
-            case 11, 12 -> both(run + "alike " + p + " " + q, () -> x.alike(p, q) ? 1 : 0,
-                () -> model.alike(p, q) ? 1 : 0);
+            case 11, 12 -> {
+                both(run + "alike " + p + " " + q, () -> x.alike(p, q) ? 1 : 0, () -> model.alike(p, q) ? 1 : 0);
+                compareIfAlike(run, p, q);
+            }
             case 13 -> both(run + "sources " + q, () -> x.sources(q), () -> model.sources(q));
             case 14 -> {
                 both(run + "row", () -> x.row(k, column), () -> model.row(k, column));
@@ -118,6 +120,16 @@ public final class RandomRunsTest {
         }
     }
 
+    /** Questions that are alike must have the same answer, too many rows being one. */
+    private void compareIfAlike(String run, int p, int q) {
+        if (p != q && Check.outcome(() -> x.alike(p, q) ? 1 : 0).equals("1")) {
+            both(run + "run " + p, () -> x.run(p), () -> model.run(p));
+            String one = Check.answer(x);
+            both(run + "run " + q, () -> x.run(q), () -> model.run(q));
+            CHECK.due(run + "answers of alike questions", Check.answer(x), one);
+        }
+    }
+
     private void ask(String run) {
         String text = questionText();
         if (below(3) == 0) {
@@ -134,44 +146,16 @@ public final class RandomRunsTest {
 
     private String questionText() {
         int outputs = 1 + below(3);
-        StringBuilder all = new StringBuilder(blockText(outputs));
-        for (int more = below(5) - 2; more > 0; more--) {
+        if (latest == null || below(3) != 0) {
+            latest = new RandomBlock(random, columns, tables, outputs);
+        }
+        StringBuilder all = new StringBuilder(latest.write());
+        for (int more = below(6) - 3; more > 0; more--) {
             all.append(" ").append("+-^".charAt(below(3))).append(" ");
-            all.append(blockText(below(20) == 0 ? 1 + below(3) : outputs));
+            RandomBlock other = new RandomBlock(random, columns, tables, outputs);
+            all.append(below(3) == 0 ? latest.write() : other.write());
         }
         return all.toString();
-    }
-
-    private String blockText(int outputs) {
-        int sources = 1 + below(below(2) == 0 ? 4 : 2);
-        int[] used = new int[sources];
-        StringBuilder of = new StringBuilder();
-        int favourite = below(Math.max(1, tables));
-        for (int i = 0; i < sources; i++) {
-            used[i] = below(2) == 0 ? favourite : below(Math.max(1, tables));
-            of.append(i == 0 ? "" : ",").append((char) ('A' + used[i])).append(" ").append((char) ('p' + i));
-        }
-        StringBuilder all = new StringBuilder(below(3) == 0 ? "set out " : "out ");
-        for (int i = 0; i < outputs; i++) {
-            all.append(i == 0 ? "" : ",").append(valueText(used, 4));
-        }
-        all.append(" of ").append(of);
-        int conditions = below(3) == 0 ? 0 : below(6) + below(2);
-        for (int i = 0; i < conditions; i++) {
-            all.append(i == 0 ? " where " : " and ").append(valueText(used, 6));
-            all.append(below(3) == 0 ? "<" : "=").append(valueText(used, 3));
-        }
-        return all.toString();
-    }
-
-    private String valueText(int[] used, int columnsOutOf) {
-        if (below(columnsOutOf) == 0) {
-            return Integer.toString(below(5) - 1);
-        }
-        int source = below(used.length);
-        int there = columns[used[source]];
-        int column = below(200) == 0 ? there : below(Math.max(1, there));
-        return (char) ('p' + source) + "." + column;
     }
 
     private String spoilt(String text) {

@@ -71,6 +71,13 @@ public final class TablesTest {
         y.insert(0, 6, 0, 0);
         y.insert(0, 5, 0, 0);
         CHECK.dueThrow("the first and the last row alike", Check.STATE, () -> y.key(0, 0));
+        y.delete(0, 0, 5);
+        y.key(0, 0);
+        for (int i = 10; i < 17; i++) {
+            y.insert(0, i, 0, 0);
+        }
+        y.key(0, 0);
+        CHECK.due("a key of eight rows", y.delete(0, 0, 16), 1);
     }
 
     private static void insertRows() {
