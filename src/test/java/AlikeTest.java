@@ -126,6 +126,12 @@ public final class AlikeTest {
         due(x, "out x.1 of A x,A y where x.0=1 and y.0=2", "out y.1 of A x,A y where x.0=2 and y.0=1", true);
         due(x, "out x.1 of A x,A y where x.0=1 and y.0=2", "out x.1 of A x,A y where x.0=2 and y.0=1", false);
         due(x, "out 5 of A x where 6=6", "out 5 of A x where 7=7", true);
+        due(x, "out 5 of A x where x.0=999", "out 5 of A x where x.0=-999", false);
+        String fifteen = "out 1,2,3 of A x where 4<5 and 6<7 and 8<9 and 10<11 and 12<13 and 14<15";
+        due(x, fifteen, "out 1,2,3 of A x", true);
+        for (int number = -999; number <= 999; number += 50) {
+            due(x, "out x.0 of A x where x.0=" + number, "out " + number + " of A x where x.0=" + number, true);
+        }
     }
 
     private static void less() {
