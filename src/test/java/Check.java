@@ -46,6 +46,10 @@ final class Check {
         }
     }
 
+    int wrong() {
+        return wrong;
+    }
+
     void end() {
         System.out.println(looked + " answers looked at, " + wrong + " not as due");
         if (wrong != 0) {
@@ -74,6 +78,14 @@ final class Check {
     static int ask(BagPlanner x, String text) {
         write(x, text);
         return x.question();
+    }
+
+    /** The answer of a question, or what reading or running it throws; all questions and the text before are gone. */
+    static String answerOf(BagPlanner x, String text) {
+        x.wipe();
+        x.forget();
+        String outcome = outcome(() -> x.run(ask(x, text)));
+        return outcome.startsWith("throws") ? outcome : answer(x);
     }
 
     /** An object with tables of these numbers of columns. */

@@ -337,6 +337,11 @@ final class Model {
         return answer.values().stream().mapToInt(i -> i).sum();
     }
 
+    /** All rows of the latest answer, with how often each is there. */
+    String answer() {
+        return answer.toString();
+    }
+
     boolean alike(int p, int q) {
         List<Part> first = parts(p);
         List<Part> second = parts(q);

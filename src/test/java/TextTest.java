@@ -33,8 +33,8 @@ public final class TextTest {
     }
 
     private static void wrongCharacters() {
-        BagPlanner x = new BagPlanner();
         for (int code = 1; code < 256; code++) {
+            BagPlanner x = new BagPlanner();
             for (int at = 0; at < 8; at++) {
                 boolean good = code >= 32 && code <= 126;
                 long packed = 0x6161616161616161L & ~(255L << (8 * at)) | (long) code << (8 * at);
@@ -42,7 +42,7 @@ public final class TextTest {
                 CHECK.due("wipe after character " + code, x.wipe(), good ? 8 : 0);
             }
         }
-        CHECK.due("write -1", x.write(-1), false);
+        CHECK.due("write -1", new BagPlanner().write(-1), false);
     }
 
     private static void fullText() {
