@@ -87,6 +87,13 @@ public final class AlikeEdgesTest {
         PLAIN.sources(0, "out 1 of A x where x.0=1 and x.1=1 and x.0<x.1", "out 1 of A x where x.0=999 and 999<x.0");
         String many = "out 1,2,3 of A x where 4<5 and 6<7 and 8<9 and 10<11 and 12<13 and 14<15";
         PLAIN.alike(many, "out 1,2,3 of A x");
+        BagPlanner x = PLAIN.planner();
+        for (int number = -15; number <= 15; number++) {
+            x.forget();
+            Check.ask(x, "out x.0 of A x where x.0=" + number);
+            Check.ask(x, "out " + number + " of A x where x.0=" + number);
+            CHECK.due("numbers of questions before, and " + number, x.alike(0, 1), true);
+        }
         PLAIN.sources(1, many);
     }
 
@@ -125,19 +132,33 @@ public final class AlikeEdgesTest {
     }
 
     private static void soOn() {
-        Blocks keysA0B0B1 = new Blocks(CHECK, "A0", "B0", "B1");
-        String chain = "out 1 of A a,A b,A c,A d where a.0=b.0 and a.1=c.0 and b.1=d.0";
-        keysA0B0B1.sources(2, chain, "out 1 of A d,A c,A b,A a where a.0=b.0 and a.1=c.0 and b.1=d.0",
-            "out 1 of A c,A a,A d,A b where b.1=d.0 and a.1=c.0 and a.0=b.0");
-        keysA0B0B1.sources(4, "out 1 of A a,A b,A c,A d where a.1=b.1 and a.1=c.0 and b.1=d.1");
-        keysA0B0B1.sources(0, chain + " and c.1<d.1", chain + " and c.1=1 and d.1=2");
-        keysA0B0B1.sources(2, chain + " and c.1=1 and d.1=1");
-        keysA0B0B1.sources(1, "out 1 of B p,B q,B r where p.0=q.0 and q.1=r.1",
+        Blocks keys = new Blocks(CHECK, "A0", "B0", "B1");
+        String chain = "a.0=b.0 and a.1=c.0 and b.1=d.0";
+        String longChain = "c.0=d.0 and b.0=c.1 and c.0=d.1 and a.0=b.2 and b.0=c.2";
+        for (String order : new String[] {"abcd", "dcba", "cdab", "badc", "cadb", "bdac", "dbca", "acbd"}) {
+            String some = "out 1 of " + sourcesOf('A', order) + " where " + chain;
+            keys.sources(2, some, some + " and c.1=1 and d.1=1", some + " and c.1<d.0");
+            keys.sources(0, some + " and c.1<d.1", some + " and c.1=1 and d.1=2");
+            keys.alike(some, "out 1 of A a,A c where a.1=c.0");
+            keys.notAlike(some, "out 1 of A a,A c where a.0=c.0", "out 1 of A a,A c where a.0=c.1 and a.1=c.0",
+                "out 1 of A a,A c");
+            String more = "out 1 of " + sourcesOf('B', order) + " where " + longChain;
+            keys.sources(1, more, more + " and a.1=a.2");
+            keys.sources(0, more + " and a.1<d.1", more + " and a.2<a.1");
+            keys.alike(more, "out 1 of B x where x.0=x.1 and x.1=x.2");
+        }
+        keys.sources(4, "out 1 of A a,A b,A c,A d where a.1=b.1 and a.1=c.0 and b.1=d.1");
+        keys.sources(1, "out 1 of B p,B q,B r where p.0=q.0 and q.1=r.1",
             "out 1 of B r,B p,B q where p.0=q.0 and q.1=r.1");
-        keysA0B0B1.sources(2, "out 1 of A w,B p,A z,B q where w.0=p.2 and z.0=q.2 and p.1=q.1");
-        keysA0B0B1.alike(chain, "out 1 of A a,A c where a.1=c.0");
-        keysA0B0B1.notAlike(chain, "out 1 of A a,A c where a.0=c.0", "out 1 of A a,A c where a.0=c.1 and a.1=c.0",
-            "out 1 of A a,A c");
+        keys.sources(2, "out 1 of A w,B p,A z,B q where w.0=p.2 and z.0=q.2 and p.1=q.1");
+    }
+
+    private static String sourcesOf(char table, String names) {
+        StringBuilder all = new StringBuilder();
+        for (char name : names.toCharArray()) {
+            all.append(all.length() == 0 ? "" : ",").append(table).append(' ').append(name);
+        }
+        return all.toString();
     }
 
     private static void twoNumbers() {

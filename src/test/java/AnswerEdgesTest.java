@@ -165,6 +165,12 @@ public final class AnswerEdgesTest {
         }
         due(with("12", ""), text, "1*1 2*1");
         due(with("", "12"), text, "");
+        BagPlanner fewer = with("123", "123");
+        for (int value = 3; value >= 1; value--) {
+            due(fewer, text, "1*1 2*1 3*1 ".substring(4 * value).trim());
+            fewer.delete(1, 0, value);
+        }
+        due(fewer, text, "1*1 2*1 3*1");
         BagPlanner x = with("12345678");
         due(x, "out x.0 of A x-out x.0 of A x", "");
         due(x, "out 1 of A x,A y,A z,A w-out 1 of A x,A y,A z", "1*3584");
@@ -180,6 +186,12 @@ public final class AnswerEdgesTest {
         }
         due(with("12", ""), text, "");
         due(with("", "12"), text, "");
+        BagPlanner fewer = with("123", "123");
+        for (int value = 3; value >= 1; value--) {
+            due(fewer, text, "1*1 2*1 3*1 ".substring(0, 4 * value).trim());
+            fewer.delete(1, 0, value);
+        }
+        due(fewer, text, "");
         due(with("12345678", "87654321"), text, "1*1 2*1 3*1 4*1 5*1 6*1 7*1 8*1");
     }
 

@@ -30,6 +30,7 @@ public final class GrammarEdgesTest {
     }
 
     private static void blocks() {
+        DOCUMENT.test("Terms", "block: set, or not that; then out", GrammarEdgesTest::otherWords);
         DOCUMENT.test("Terms", "block: set, or not that", GrammarEdgesTest::setOrNot);
         DOCUMENT.test("Terms", "then out, and one to three values with , between", GrammarEdgesTest::oneToThreeOutputs);
         DOCUMENT.test("Terms", "then of, and one to four sources with , between", GrammarEdgesTest::oneToFourSources);
@@ -68,8 +69,27 @@ public final class GrammarEdgesTest {
             READ.good("out " + letter + ".0 of A " + letter);
         }
         READ.wrong("out |`.0 of A x", "out |{.0 of A x", "out 1 of A |`", "out 1 of A |{", "out 1 of A x|{",
-            "|`out 1 of A x", "out|{ 1 of A x", "|Out 1 of A x", "|OUT 1 of A x", "|oUT 1 of A x", "|SET out 1 of A x",
-            "out 1 |OF A x", "out 1 of |a x", "out 1 of A |X", "out |X.0 of A x");
+            "out 1 of A x|`", "out|` 1 of A x", "|`out 1 of A x", "out|{ 1 of A x", "|Out 1 of A x", "|OUT 1 of A x",
+            "|oUT 1 of A x", "|SET out 1 of A x", "out 1 |OF A x", "out 1 of |a x", "out 1 of A |X",
+            "out |X.0 of A x");
+    }
+
+    /** Each letter of each word that a block is written with, put in another one's place, makes it another word. */
+    private static void otherWords() {
+        String text = "set out 1 of A x where 1=1 and 1=1";
+        for (String word : new String[] {"set", "out", "of", "where", "and"}) {
+            int at = text.indexOf(word);
+            for (int i = 0; i < word.length(); i++) {
+                for (char other : new char[] {'a', 'q', 'z', 'A', (char) (word.charAt(i) + 1)}) {
+                    StringBuilder wrong = new StringBuilder(text);
+                    wrong.setCharAt(at + i, other);
+                    if (wrong.charAt(at + i) != text.charAt(at + i)) {
+                        READ.place(wrong.toString(), at);
+                    }
+                }
+            }
+        }
+        READ.good(text);
     }
 
     private static void capitals() {

@@ -6,7 +6,7 @@ import java.nio.file.Path;
 import java.util.regex.Matcher;
 import java.util.regex.Pattern;
 
-/** What a look at the source can tell of the rules in LANGUAGE.md; where a rule says "some", a little more is let be. */
+/** What a look at the source can tell of the rules in LANGUAGE.md; where one says "some", a little more is let be. */
 public final class LanguageTest {
     private static final Check CHECK = new Check();
     private static final String[] NOT_THERE = {

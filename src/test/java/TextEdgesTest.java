@@ -37,6 +37,12 @@ public final class TextEdgesTest {
         CHECK.due("it is read", y.question(), 0);
         CHECK.due("there is room for 200 again", Check.write(y, " ".repeat(200)), true);
         CHECK.due("but not for 201", y.write(' '), false);
+        for (char c : "A9,;".toCharArray()) {
+            BagPlanner z = Check.withTables(1);
+            Check.write(z, (c + "-").repeat(100));
+            CHECK.dueThrow("200 tokens", Check.ARGUMENT, z::question);
+            CHECK.due("of which the first is wrong", z.place(), 0);
+        }
     }
 
     private static void everyCode() {
