@@ -97,11 +97,14 @@ final class Check {
         return x;
     }
 
-    /** The latest answer, as it can be read call by call: rows with their values and how often each is there. */
+    /**
+     * The latest answer, as it can be read call by call: rows with their values and how often each is there. It goes
+     * one row and one value beyond what an answer can have, so that one that is too large is seen, and ends there.
+     */
     static String answer(BagPlanner x) {
         StringBuilder rows = new StringBuilder();
-        for (int k = 0; !outcome(times(x, k)).startsWith("throws"); k++) {
-            for (int c = 0; !outcome(value(x, k, c)).startsWith("throws"); c++) {
+        for (int k = 0; k <= 64 && !outcome(times(x, k)).startsWith("throws"); k++) {
+            for (int c = 0; c <= 3 && !outcome(value(x, k, c)).startsWith("throws"); c++) {
                 rows.append(c == 0 ? "" : ",").append(x.row(k, c));
             }
             rows.append("*").append(x.times(k)).append(" ");
