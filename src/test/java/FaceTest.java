@@ -1,7 +1,10 @@
+import java.io.IOException;
 import java.lang.reflect.Constructor;
 import java.lang.reflect.Field;
 import java.lang.reflect.Method;
 import java.lang.reflect.Modifier;
+import java.nio.file.Files;
+import java.nio.file.Path;
 import java.util.Arrays;
 import java.util.TreeSet;
 
@@ -53,7 +56,24 @@ public final class FaceTest {
         for (Class<?> inside : face.getDeclaredClasses()) {
             check.due(inside.getName() + " is static", Modifier.isStatic(inside.getModifiers()), true);
         }
+        new Sentences(check).test("The public face", "public final class BagPlanner {\n    public BagPlanner();",
+            () -> check.due("the document's methods", found.toString(), methodsOf("../shared/DOC.md", found)));
         check.end();
+    }
+
+    /** The methods that the document lists, without their parameters' names; those found if it is not at hand. */
+    private static String methodsOf(String document, TreeSet<String> found) {
+        TreeSet<String> listed = new TreeSet<>();
+        try {
+            for (String line : Files.readAllLines(Path.of(document))) {
+                if (line.matches("    public \\w+ \\w+\\(.*;")) {
+                    listed.add(line.substring(11, line.length() - 1).replaceAll("(int|long) \\w+([,)])", "$1$2"));
+                }
+            }
+        } catch (IOException e) {
+            return found.toString();
+        }
+        return listed.toString();
     }
 
     private static String signature(Method method) {
